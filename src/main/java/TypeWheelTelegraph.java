@@ -587,7 +587,7 @@ public final class TypeWheelTelegraph {
     }
 
     int get(int index) {
-      return index >= 0 && index < size ? items[index] : NONE;
+      return index >= 0 && index < size && index < items.length ? items[index] : NONE;
     }
 
     void add(int item) {
@@ -599,7 +599,7 @@ public final class TypeWheelTelegraph {
 
     boolean holds(int item) {
       for (int i = 0; i < size; i++) {
-        if (items[i] == item) {
+        if (get(i) == item) {
           return true;
         }
       }
@@ -617,7 +617,7 @@ public final class TypeWheelTelegraph {
     }
 
     void copyFrom(Row other) {
-      size = Math.min(other.size, items.length);
+      size = Math.min(other.size, Math.min(other.items.length, items.length));
       System.arraycopy(other.items, 0, items, 0, size);
     }
   }
@@ -644,7 +644,8 @@ public final class TypeWheelTelegraph {
       if (index < 0 || index >= size || what < 0 || what >= WIDTH) {
         return NONE;
       }
-      return cells[cellOf(index) + what];
+      int cell = cellOf(index) + what;
+      return cell < cells.length ? cells[cell] : NONE;
     }
 
     void add(int a, int b, int c) {
@@ -652,10 +653,12 @@ public final class TypeWheelTelegraph {
         removeFirst();
       }
       int cell = cellOf(size);
-      cells[cell] = a;
-      cells[cell + 1] = b;
-      cells[cell + 2] = c;
-      size++;
+      if (cell + 2 < cells.length) {
+        cells[cell] = a;
+        cells[cell + 1] = b;
+        cells[cell + 2] = c;
+        size++;
+      }
     }
 
     void removeFirst() {
@@ -1222,11 +1225,9 @@ public final class TypeWheelTelegraph {
       return time - latestArrival;
     }
 
+    /** All that belongs to the line was reset by the end of the transmission before. */
     void beginTransmission(int office) {
       sender = office;
-      waiting = false;
-      sent = 0;
-      repeated = 0;
       latestArrival = time;
       receiver.clear();
     }
