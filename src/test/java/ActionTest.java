@@ -231,13 +231,8 @@ public final class ActionTest {
   }
 
   private static void make(TypeWheelTelegraph x, String words) {
-    String[] call = words.split(" ");
-    Object[] arguments = new Object[call.length - 1];
-    for (int i = 1; i < call.length; i++) {
-      arguments[i - 1] = Integer.parseInt(call[i]);
-    }
-    String answer = Calls.answer(x, call[0], arguments);
-    Due.equal(call[0] + " answers", answer.startsWith("throws"), false);
+    String answer = Calls.ask(x, words);
+    Due.equal(words + " answers", answer.startsWith("throws"), false);
   }
 
   private static void undoTen() {

@@ -23,6 +23,17 @@ final class Calls {
     }
   }
 
+  /** A call written as its name and its arguments, with blanks between them. */
+  static String ask(Object target, String call) {
+    String[] words = call.split(" ");
+    Object[] arguments = new Object[words.length - 1];
+    for (int i = 1; i < words.length; i++) {
+      boolean isTruth = words[i].equals("true") || words[i].equals("false");
+      arguments[i - 1] = isTruth ? (Object) words[i].equals("true") : Integer.valueOf(words[i]);
+    }
+    return answer(target, words[0], arguments);
+  }
+
   private static Method method(Object target, String name) {
     return METHODS.computeIfAbsent(
         target.getClass().getName() + "." + name, key -> find(target.getClass(), name));

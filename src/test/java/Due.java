@@ -2,12 +2,22 @@
 final class Due {
   private static int asked = 0;
   private static int wrong = 0;
+  private static int sentences = 0;
+  private static String place = "";
 
   interface Call {
     void make();
   }
 
   private Due() {}
+
+  /** The answers from here on hold to this sentence, which must stand in the document's section. */
+  static void sentence(String section, String words) {
+    place = "";
+    equal("\"" + words + "\" stands in " + section, Document.says(section, words), true);
+    place = "[" + section + ": " + words + "] ";
+    sentences++;
+  }
 
   static void equal(String what, Object got, Object want) {
     asked++;
@@ -23,7 +33,8 @@ final class Due {
         && gotLines[line].equals(wantLines[line])) {
       line++;
     }
-    System.out.println(what + " answered " + gotLines[line] + ", due is " + wantLines[line]);
+    System.out.println(
+        place + what + " answered " + gotLines[line] + ", due is " + wantLines[line]);
   }
 
   /** The call throws just this exception, and changes nothing that can be seen. */
@@ -44,7 +55,9 @@ final class Due {
   }
 
   static void end(String test) {
-    System.out.println(test + ": " + (asked - wrong) + " of " + asked + " answers are as due");
+    String cited = sentences == 0 ? "" : ", for " + sentences + " sentences of the document";
+    System.out.println(
+        test + ": " + (asked - wrong) + " of " + asked + " answers are as due" + cited);
     if (wrong > 0) {
       System.exit(1);
     }

@@ -23,6 +23,21 @@ final class Sample {
     return x;
   }
 
+  /** Office 0 is sending, and all that it sends is printed with the offset 0. */
+  static TypeWheelTelegraph sendingInStep(String text) {
+    TypeWheelTelegraph x = of(text);
+    x.nudge(1, -x.lead());
+    x.start(0);
+    return x;
+  }
+
+  /** Lets time pass; no ticks and more than 2000 are all right here. */
+  static void pass(TypeWheelTelegraph x, int ticks) {
+    for (int left = ticks; left > 0; left -= 2000) {
+      x.run(Math.min(left, 2000));
+    }
+  }
+
   static String received(TypeWheelTelegraph x, int office) {
     StringBuilder text = new StringBuilder();
     for (int i = 0; i < x.receivedLength(office); i++) {
@@ -55,5 +70,24 @@ final class Sample {
       text.append(i == 0 ? "" : " ").append(x.pulseOf(office, line, i));
     }
     return text.toString();
+  }
+
+  /**
+   * A telegraph in the midst of it: pulses and a break are under way, it has three actions more
+   * than can be undone, a formatted text, an error offset and an input buffer.
+   */
+  static TypeWheelTelegraph busy() {
+    TypeWheelTelegraph x = sending(IN_STEP.replace("5500", "4620") + "message 1 b;delay 3;lose 3;");
+    for (int action = 1; action <= 9; action++) {
+      x.nudge(0, 0);
+    }
+    x.run(11);
+    x.setCorrection(40);
+    x.breakIn();
+    Calls.put(x, "delay 2;message 0;");
+    Calls.answer(x, "load");
+    Calls.put(x, "delay 7;message 0 a;");
+    x.format(1);
+    return x;
   }
 }
