@@ -31,9 +31,13 @@ public final class ActionBoundaryTest {
     breakTime();
     breakRefused();
     setRate();
+    setRateRefused();
     nudge();
+    nudgeRefused();
     setCorrection();
+    setCorrectionRefused();
     loseAhead();
+    loseRefused();
     loseTwenty();
     undo();
     Due.end("ActionBoundaryTest");
@@ -143,11 +147,13 @@ public final class ActionBoundaryTest {
     };
     for (String call : calls) {
       for (int ticks = 1; ticks <= 90; ticks += 4) {
-        TypeWheelTelegraph x = inTheMidst(ticks);
-        String before = goneOn(inTheMidst(ticks));
-        Due.equal(call + " throws", Calls.ask(x, call).startsWith("throws"), false);
-        Due.equal("undo() of " + call, x.undo(), 2);
-        Due.equal("what goes on after undo() of " + call, goneOn(x), before);
+        for (int phase : new int[] {5620, 400}) {
+          TypeWheelTelegraph x = inTheMidst(phase, ticks);
+          String before = goneOn(inTheMidst(phase, ticks));
+          Due.equal(call + " throws", Calls.ask(x, call).startsWith("throws"), false);
+          Due.equal("undo() of " + call, x.undo(), 2);
+          Due.equal("what goes on after undo() of " + call, goneOn(x), before);
+        }
       }
     }
     TypeWheelTelegraph x = Sample.of(Sample.IN_STEP);
@@ -156,9 +162,14 @@ public final class ActionBoundaryTest {
     Due.equal("after undo() of start", goneOn(x), goneOn(Sample.of(Sample.IN_STEP)));
   }
 
-  /** The check of the line is lost; it is sent at 20, and the line repeated at 72. */
-  private static TypeWheelTelegraph inTheMidst(int ticks) {
-    TypeWheelTelegraph x = Sample.sending(Sample.IN_STEP.replace("5500", "5620") + "lose 4;");
+  /**
+   * The check of the line is lost, and it is sent again. By the phase 400 all is misprinted: the
+   * letters are read as figures.
+   */
+  private static TypeWheelTelegraph inTheMidst(int phase, int ticks) {
+    String line = phase == 400 ? "1aa" : "ad";
+    String text = Sample.IN_STEP.replace("5500", "" + phase).replace("ad", line);
+    TypeWheelTelegraph x = Sample.sending(text + "lose 4;");
     x.run(ticks);
     return x;
   }
@@ -495,13 +506,18 @@ public final class ActionBoundaryTest {
         Due.equal("rate", x.rate(office), rate);
         before = rate;
       }
-      for (int rate : new int[] {MIN, -1, 0, 9, 1000, MAX}) {
-        Twins.refuse(Sample::busy, NO_VALUE, "setRate", office, rate);
-      }
     }
     x.run(1);
     Due.equal("phase(0)", x.phase(0), 10);
     Due.equal("phase(1)", x.phase(1), 5510);
+  }
+
+  private static void setRateRefused() {
+    Due.sentence("Promise 43", "Throws `IllegalArgumentException` if rate is out of range");
+    for (int rate : new int[] {MIN, -1, 0, 9, 1000, MAX}) {
+      Twins.refuse(Sample::busy, NO_VALUE, "setRate", 0, rate);
+      Twins.refuse(Sample::busy, NO_VALUE, "setRate", 1, rate);
+    }
   }
 
   private static void nudge() {
@@ -526,6 +542,10 @@ public final class ActionBoundaryTest {
         }
       }
     }
+  }
+
+  private static void nudgeRefused() {
+    Due.sentence("Promise 44", "Throws `IllegalArgumentException` if change is out of range");
     for (int change : new int[] {MIN, -14001, 14001, MAX}) {
       Twins.refuse(Sample::busy, NO_VALUE, "nudge", 0, change);
       Twins.refuse(Sample::busy, NO_VALUE, "nudge", 1, change);
@@ -540,9 +560,6 @@ public final class ActionBoundaryTest {
       Due.equal("setCorrection: the previous one", x.setCorrection(limit), before);
       before = limit;
     }
-    for (int limit : new int[] {MIN, -1, 501, MAX}) {
-      Twins.refuse(Sample::busy, NO_VALUE, "setCorrection", limit);
-    }
     // 120 ahead at the first print, at 5.
     for (int limit : new int[] {0, 119, 120, 121, 500}) {
       x = Sample.sending(WHEELS + "message 0 a;");
@@ -550,6 +567,13 @@ public final class ActionBoundaryTest {
       x.setCorrection(limit);
       x.run(5);
       Due.equal("phase(1) by " + limit, x.phase(1), 2000 + Math.max(0, 120 - limit));
+    }
+  }
+
+  private static void setCorrectionRefused() {
+    Due.sentence("Promise 45", "Throws `IllegalArgumentException` if limit is out of range");
+    for (int limit : new int[] {MIN, -1, 501, MAX}) {
+      Twins.refuse(Sample::busy, NO_VALUE, "setCorrection", limit);
     }
   }
 
@@ -572,6 +596,11 @@ public final class ActionBoundaryTest {
     Due.equal("lose(1) behind two", x.lose(1), 3);
     Due.equal("lose(500) behind two", x.lose(500), 502);
     Due.equal("lose(499) behind two", x.lose(499), 501);
+    Due.equal("lose(1) again", x.lose(1), 3);
+  }
+
+  private static void loseRefused() {
+    Due.sentence("Promise 46", "Throws `IllegalArgumentException` if ahead is out of range");
     for (int ahead : new int[] {MIN, -1, 0, 501, MAX}) {
       Twins.refuse(Sample::busy, NO_VALUE, "lose", ahead);
     }

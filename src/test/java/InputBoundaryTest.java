@@ -10,8 +10,10 @@ public final class InputBoundaryTest {
     newLength();
     appendRefused();
     truncated();
+    truncateLength();
     truncateRefused();
     loaded();
+    loadedAgain();
     emptyBuffer();
     formattedTextStays();
     numberOfLines();
@@ -115,15 +117,28 @@ public final class InputBoundaryTest {
     Due.equal("load()", x.load(), 0);
   }
 
-  private static void truncateRefused() {
+  private static void truncateLength() {
     Due.sentence("Promise 3", "- `length`: the new length, 0 to the current length");
     for (int length : new int[] {0, 1, 15, 599, 600}) {
-      for (int wrong : new int[] {-1, Integer.MIN_VALUE, length + 1, 601, Integer.MAX_VALUE}) {
-        Twins.refuseInput(() -> withBuffer(length), NO_VALUE, "truncate", wrong);
+      for (int shorter : new int[] {0, Math.max(0, length - 1), length}) {
+        TypeWheelTelegraph x = withBuffer(length);
+        x.truncate(shorter);
+        String longer = Calls.answer(x, "truncate", shorter + 1);
+        Due.equal("truncate(" + (shorter + 1) + ")", longer, "throws.IllegalArgumentException");
+        x.truncate(shorter);
       }
       TypeWheelTelegraph x = withBuffer(length);
       x.truncate(length);
       Due.equal("load()", x.load(), length < 15 ? 0 : 2);
+    }
+  }
+
+  private static void truncateRefused() {
+    Due.sentence("Promise 3", "Throws `IllegalArgumentException` if length is out of range");
+    for (int length : new int[] {0, 1, 15, 599, 600}) {
+      for (int wrong : new int[] {-1, Integer.MIN_VALUE, length + 1, 601, Integer.MAX_VALUE}) {
+        Twins.refuseInput(() -> withBuffer(length), NO_VALUE, "truncate", wrong);
+      }
     }
   }
 
@@ -152,11 +167,13 @@ public final class InputBoundaryTest {
 
   /** A telegraph that has sent, lost, printed wrongly, repeated, and is sending. */
   private static TypeWheelTelegraph worn() {
-    String text = Sample.IN_STEP.replace("5500", "5620") + "lose 4;lose 5;message 1 a;delay 3;";
+    String text = Sample.IN_STEP.replace("5500", "4620") + "lose 5;message 1 a;delay 3;";
     TypeWheelTelegraph x = Sample.sending(text);
     x.run(100);
     x.breakIn();
     x.run(3);
+    Due.equal("linesDone(0) is 0 before load()", x.linesDone(0) == 0, false);
+    Due.equal("receivedLength(1) is 0 before load()", x.receivedLength(1) == 0, false);
     x.nudge(1, 1700);
     x.setCorrection(9);
     x.setRate(0, 333);
@@ -169,9 +186,26 @@ public final class InputBoundaryTest {
       Due.equal(name + " is 0 before load()", Calls.answer(x, name).equals("0"), false);
     }
     for (String name : new String[] {"prints", "misprints", "worstOffset", "meanOffset"}) {
-      Due.equal(name + " is 0 before load()", Calls.answer(x, name, 1).matches("0|0.0"), false);
+      Due.equal(name + " is 0 before load()", Calls.answer(x, name, 0).matches("0|0.0"), false);
     }
     return x;
+  }
+
+  private static void loadedAgain() {
+    Due.sentence("Promise 4", "Parses the input buffer and replaces the telegraph by what it");
+    // Nothing of a text before comes back, however many loads there were.
+    TypeWheelTelegraph x = new TypeWheelTelegraph();
+    String full = "lose 1;".repeat(20) + "message 0 ///////////z9;message 1 z9/z9;office 9 99;";
+    String[] texts = {full, "wheel 6;message 1 a;", "", full, "message 0 1a/;lose 3;", full, full};
+    for (String text : texts) {
+      Calls.put(x, text);
+      x.load();
+      TypeWheelTelegraph y = Sample.of(text);
+      Due.equal("after the load of " + text, Calls.watch(x), Calls.watch(y));
+      for (int named = 0; named <= 20; named++) {
+        Due.equal("lose(1)", Calls.answer(x, "lose", 1), Calls.answer(y, "lose", 1));
+      }
+    }
   }
 
   private static String unformatted(TypeWheelTelegraph x) {

@@ -26,6 +26,7 @@ public final class TextBoundaryTest {
     lossNumbers();
     twentyLosses();
     messageOffice();
+    characters();
     slashes();
     onTheWheel();
     wordsAsItems();
@@ -157,7 +158,12 @@ public final class TextBoundaryTest {
       int length = keyword.length();
       Loads.refused(keyword + "s 9;", 0);
       Loads.refused(keyword.substring(0, length - 1) + " 9;", 0);
+      Loads.refused(keyword.substring(1) + " 9;", 0);
       Loads.refused(keyword.toUpperCase() + " 9;", 0);
+      for (int place = 0; place < length; place++) {
+        String end = keyword.substring(place + 1);
+        Loads.refused(keyword.substring(0, place) + "x" + end + " 1 11;", 0);
+      }
       Loads.refused(keyword, length);
       Loads.refused(keyword + ";", length);
       Loads.refused(keyword + "/", length);
@@ -338,6 +344,17 @@ public final class TextBoundaryTest {
     Due.equal("lineCount(1)", x.lineCount(1), 0);
     Loads.refused("message 2 a;", 8);
     Loads.refused("message 99999 a;", 8);
+  }
+
+  private static void characters() {
+    Due.sentence(
+        SECTION, "The letters of its words and the digits of its numbers are characters;");
+    lengths("message 0 abcdefghijkl;", 12);
+    lengths("message 0 12345;", 5);
+    lengths("message 0 00000;", 5);
+    lengths("message 0 0;", 1);
+    TypeWheelTelegraph x = Loads.accepted("message 0 az09 009a;", 1);
+    Due.equal("pulses", Sample.pulses(x, 0, 0), "2 27 1 2 11 2 2 11 0 2 0 12");
   }
 
   private static void slashes() {

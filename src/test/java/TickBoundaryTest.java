@@ -18,9 +18,11 @@ public final class TickBoundaryTest {
     thousandCharacters();
     clearedByCheck();
     shifts();
+    appended();
     fortyFirst();
     ignoredAnswers();
     answers();
+    broken();
     breaks();
     brokenLine();
     passing();
@@ -363,6 +365,29 @@ public final class TickBoundaryTest {
     checked(WHEELS + "message 0 1a1;lose 1;", "17,2,1 45,1,1 46,6,0");
   }
 
+  private static void appended() {
+    Due.sentence(
+        SECTION,
+        "Otherwise the character of this position in the present shift is appended to the line"
+            + " buffer, and the count increases by 1;");
+    // The line is sent by the shifts, the positions 2 to 27 as letters, and 2 to 11 as figures.
+    String text = "office 0 500;office 27500 500;";
+    TypeWheelTelegraph x =
+        Sample.sending(text + "message 0 abcdefghijkl mnopqrstuvwx yz/01234 56789;");
+    x.runUntilDone(5000);
+    Due.equal("received", Sample.received(x, 1), "abcdefghijklmnopqrstuvwxyz/0123456789/");
+    // The figure 0 is sent at 4 and arrives at 5; a wheel that is ahead prints the other figures.
+    for (int position = 2; position <= 27; position++) {
+      x = Sample.sending(text + "message 0 0;");
+      x.run(4);
+      x.nudge(1, 1000 * (position - 2) - (position > 16 ? 28000 : 0));
+      x.run(1);
+      Due.equal("buffer", Sample.buffer(x), String.valueOf(x.character(position, true)));
+    }
+    // The count is told by the bad line: a lost 3 is one less than the check.
+    checked(WHEELS + "message 0 ab;lose 2;retries 0;", "21,2,1 22,4,0 22,6,0");
+  }
+
   private static void fortyFirst() {
     Due.sentence(
         SECTION,
@@ -427,6 +452,23 @@ public final class TickBoundaryTest {
     x.run(1);
     Due.equal("linesDone(0) after the answer", x.linesDone(0), 0);
     Due.equal("repetition()", x.repetition(), 1);
+  }
+
+  private static void broken() {
+    Due.sentence(SECTION, "A break arrives at the sender: it ends its transmission.");
+    // Before and behind each pulse, and while the sender is waiting.
+    for (int ticks : new int[] {0, 3, 4, 11, 12, 17, 18}) {
+      TypeWheelTelegraph x = Sample.sending(WHEELS + "message 0 a;guard 50;");
+      Sample.pass(x, ticks);
+      int arrival = x.breakIn();
+      Due.equal("sender() before " + arrival, x.sender(), 0);
+      x.run(1);
+      Due.equal("sender() at " + arrival, x.sender(), -1);
+      Due.equal("isWaiting()", x.isWaiting(), false);
+      int last = x.eventCount() - 1;
+      Due.equal("the time of the event", x.event(last, 0), arrival);
+      Due.equal("its code", x.event(last, 1), 5);
+    }
   }
 
   private static void breaks() {

@@ -256,6 +256,20 @@ public final class TrialBoundaryTest {
     x.nudge(1, -299);
     Due.equal("worstOffset(1)", x.worstOffset(1), 499);
     Due.equal("bestRate(1, 8)", x.bestRate(1, 8), 500);
+    // The same with office 0 as the receiver: its print in tick 5 is 499 ahead, the next is 0.
+    x = Sample.of("wheel 6;office 5500 500;office 0 500;message 1 a;");
+    x.start(1);
+    x.nudge(0, 499);
+    x.run(5);
+    x.nudge(0, -299);
+    Due.equal("worstOffset(0)", x.worstOffset(0), 499);
+    Due.equal("bestRate(0, 8)", x.bestRate(0, 8), 500);
+    x.setRate(0, 502);
+    Due.equal("bestRate(0, 8)", x.bestRate(0, 8), 500);
+    // An offset of 1 is worse than none.
+    x = Sample.sending(WHEELS + "message 0 a;");
+    x.run(4);
+    Due.equal("bestRate(1, 1)", x.bestRate(1, 1), 500);
   }
 
   private static void bestOf(int above, int due) {

@@ -7,6 +7,7 @@ public final class WheelBoundaryTest {
     positions();
     shiftsAndCharacters();
     phases();
+    observers();
     facing();
     character();
     lead();
@@ -80,6 +81,28 @@ public final class WheelBoundaryTest {
     x.run(1);
     Due.equal("phase(0) after a tick from " + office, x.phase(0), due);
     Due.equal("phase(1) after a tick from " + office, x.phase(1), due);
+  }
+
+  private static void observers() {
+    Due.sentence("Promise 6", "Returns the number of positions of the wheels.");
+    Due.equal("positions() at least", Sample.of("wheel 6;").positions(), 6);
+    Due.equal("positions() at most", Sample.of("wheel 28;").positions(), 28);
+    Due.equal("positions() of a new object", new TypeWheelTelegraph().positions(), 28);
+    Due.sentence("Promise 7", "Returns the time.");
+    TypeWheelTelegraph x = Sample.of("wheel 6;office 0 10;office 5999 999;");
+    Due.equal("time()", x.time(), 0);
+    Due.sentence("Promise 8", "Returns the phase of an office's wheel.");
+    Due.equal("phase(0)", x.phase(0), 0);
+    Due.equal("phase(1)", x.phase(1), 5999);
+    Due.sentence("Promise 9", "Returns the rate of an office.");
+    Due.equal("rate(0)", x.rate(0), 10);
+    Due.equal("rate(1)", x.rate(1), 999);
+    Sample.pass(x, 100000);
+    Due.sentence("Promise 7", "Returns the time.");
+    Due.equal("time() at most", x.time(), 100000);
+    Due.sentence("Promise 8", "Returns the phase of an office's wheel.");
+    Due.equal("phase(0) after 1000000", x.phase(0), 4000);
+    Due.equal("phase(1) after 99900000", x.phase(1), 5999);
   }
 
   private static void facing() {
