@@ -15,6 +15,7 @@ final class Due {
   static void sentence(String section, String words) {
     place = "";
     equal("\"" + words + "\" stands in " + section, Document.says(section, words), true);
+    Document.cite(section, words);
     place = "[" + section + ": " + words + "] ";
     sentences++;
   }

@@ -19,14 +19,36 @@ public final class FaceTest {
     Due.equal("the private methods named like public ones", sharedNames(), "[]");
     Due.equal("public and final", TypeWheelTelegraph.class.getModifiers() & 17, 17);
     Due.equal("NONE", TypeWheelTelegraph.NONE, -1);
+    signatures();
     Due.end("FaceTest");
+  }
+
+  private static void signatures() throws IOException {
+    Due.sentence(
+        "ACTIONS AND EXCEPTIONS",
+        "The constructor and the methods follow, a promise each: the signature, then what it"
+            + " does.");
+    List<String> lines = Files.readAllLines(Path.of("../shared/DOC.md"));
+    Set<String> promised =
+        lines.stream()
+            .filter(line -> line.matches("`[^`]+`"))
+            .map(line -> "public " + line.replace("`", "") + ";")
+            .map(FaceTest::withoutNames)
+            .collect(Collectors.toCollection(TreeSet::new));
+    promised.add("public static final int NONE;");
+    Due.equal("the signatures of the promises", promised, face());
+    Due.equal("their number", promised.size(), 54 + 1);
+  }
+
+  private static String withoutNames(String signature) {
+    return signature.replaceAll(" [a-z]\\w*([,)])", "$1");
   }
 
   private static Set<String> documentedFace() throws IOException {
     List<String> lines = Files.readAllLines(Path.of("../shared/DOC.md"));
     return lines.stream()
         .filter(line -> line.startsWith("    public "))
-        .map(line -> line.trim().replaceAll(" [a-z]\\w*([,)])", "$1").replace(" = -1", ""))
+        .map(line -> withoutNames(line.trim()).replace(" = -1", ""))
         .collect(Collectors.toCollection(TreeSet::new));
   }
 

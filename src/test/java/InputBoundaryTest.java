@@ -317,7 +317,10 @@ public final class InputBoundaryTest {
   }
 
   private static void manyCalls() {
-    Due.sentence("What it is", "An object is used for at most 512 calls after it has been made");
+    Due.sentence(
+        "What it is",
+        "An object is used for at most 512 calls after it has been made; what later calls answer"
+            + " is free.");
     TypeWheelTelegraph x = new TypeWheelTelegraph();
     // "delay 50;message0 abc;": the first pulse is sent at 20.
     x.append(0x64656c61, 0x79203530, 0x3b6d6573, 0x73616765, 0x30206162);

@@ -92,10 +92,12 @@ public final class TrialBoundaryTest {
     TypeWheelTelegraph x = Sample.sending(late);
     x.run(1999);
     Due.equal("misprintsIn(1)", x.misprintsIn(1), 1);
-    refuseTicks("misprintsIn", 2000);
+    refuse("Promise 48", "ticks", "misprintsIn", 2000);
   }
 
-  private static void refuseTicks(String call, int last) {
+  private static void refuse(String promise, String parameter, String call, int last) {
+    Due.sentence(
+        promise, "Throws `IllegalArgumentException` if " + parameter + " is out of range");
     for (int ticks : new int[] {MIN, -1, 0, last + 1, MAX}) {
       Twins.refuseCall(Sample::busy, NO_VALUE, call + " " + ticks);
       Twins.refuseCall(TypeWheelTelegraph::new, NO_VALUE, call + " " + ticks);
@@ -139,7 +141,7 @@ public final class TrialBoundaryTest {
     Due.equal("ticksUntilDone(2) two before", x.ticksUntilDone(2), 2);
     x.run(1);
     Due.equal("ticksUntilDone(1) one before", x.ticksUntilDone(1), 1);
-    refuseTicks("ticksUntilDone", 5000);
+    refuse("Promise 49", "limit", "ticksUntilDone", 5000);
   }
 
   private static void untilDoneTicks() {
@@ -164,7 +166,7 @@ public final class TrialBoundaryTest {
     Due.equal("bestCorrection(1000)", x.bestCorrection(1000), 25);
     x.run(999);
     Due.equal("bestCorrection(1)", x.bestCorrection(1), 0);
-    refuseTicks("bestCorrection", 1000);
+    refuse("Promise 50", "ticks", "bestCorrection", 1000);
   }
 
   private static void correctionLimits() {
@@ -207,8 +209,8 @@ public final class TrialBoundaryTest {
     Due.equal("bestRate(1, 1000)", x.bestRate(1, 1000), 10);
     x.run(799);
     Due.equal("bestRate(1, 1): the offset is 200 by 10", x.bestRate(1, 1), 10);
-    refuseTicks("bestRate 0", 1000);
-    refuseTicks("bestRate 1", 1000);
+    refuse("Promise 51", "ticks", "bestRate 0", 1000);
+    refuse("Promise 51", "ticks", "bestRate 1", 1000);
   }
 
   private static void rates() {
@@ -286,8 +288,8 @@ public final class TrialBoundaryTest {
     Due.equal("bestNudge(1, 1000)", x.bestNudge(1, 1000), -200);
     x.run(999);
     Due.equal("bestNudge(1, 1)", x.bestNudge(1, 1), -200);
-    refuseTicks("bestNudge 0", 1000);
-    refuseTicks("bestNudge 1", 1000);
+    refuse("Promise 52", "ticks", "bestNudge 0", 1000);
+    refuse("Promise 52", "ticks", "bestNudge 1", 1000);
   }
 
   private static void nudges() {
